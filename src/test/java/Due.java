@@ -1,7 +1,7 @@
 /** Counts the answers that are as due and prints those that are not. */
 final class Due {
     private static final int MOST_PRINTED = 40;
-    private static final long MOST_SECONDS = 300;
+    private static final long MOST_SECONDS = 120;
     private final String name;
     private int passed = 0;
     private int failed = 0;
