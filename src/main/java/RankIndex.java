@@ -16,6 +16,10 @@ public final class RankIndex {
     private static final int LEAST_TOLD_RANK = -1;
     private static final int GREATEST_TOLD_RANK = 30;
     private static final int RANK_OF_NO_NODE = -1;
+    private static final int DRAWN_KINDS = 3;
+    private static final int TAKING_KIND = 2;
+    private static final int DRAWN_KEYS = 200;
+    private static final int DRAWN_WORTHS = 100;
 
     private final Tree tree;
     /** A tree to try things on: made once, so that no call has to make one. */
@@ -347,13 +351,13 @@ public final class RankIndex {
     }
 
     private void driftOnce() {
-        int kind = draws.next(3);
-        int drawn = draws.next(200);
+        int kind = draws.next(DRAWN_KINDS);
+        int drawn = draws.next(DRAWN_KEYS);
         int slot = tree.nodes.slotOfKey(drawn);
-        if (kind == 2) {
+        if (kind == TAKING_KIND) {
             tree.remove(slot);
         } else if (slot == NONE && hasRoom()) {
-            tree.add(drawn, draws.next(100));
+            tree.add(drawn, draws.next(DRAWN_WORTHS));
         }
     }
 
