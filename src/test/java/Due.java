@@ -37,6 +37,10 @@ final class Due {
         }
     }
 
+    int looks() {
+        return passed + failed;
+    }
+
     boolean isClean() {
         return failed == 0;
     }

@@ -1,3 +1,5 @@
+import java.util.function.Supplier;
+
 /** Tells what can be seen of a RankIndex through its face, as texts that tests can compare. */
 final class Look {
     /** What stands in for a key in a mirrored tree. */
@@ -32,7 +34,8 @@ final class Look {
 
     static String keys(RankIndex x) {
         StringBuilder text = new StringBuilder();
-        for (int k = 0; k < x.told(0); k++) {
+        int keys = x.told(0);
+        for (int k = 0; k < keys; k++) {
             int key = x.at(k);
             text.append(k == 0 ? "" : " ").append(key).append('=').append(x.key(key, 0));
         }
@@ -59,8 +62,35 @@ final class Look {
         return shape(x) + " | " + keys(x) + " | " + counts(x);
     }
 
-    /** All that a refused call has to leave as it is. */
-    static String all(RankIndex x) {
-        return tree(x) + " | " + seed(x) + " | " + x.told(16);
+    /** All that can be told at once, by few calls, so that an object of sixty keys can be looked at twice. */
+    static String now(RankIndex x) {
+        StringBuilder text = new StringBuilder();
+        for (int what = 0; what < 17; what++) {
+            text.append(x.told(what)).append(' ');
+        }
+        int nodes = x.told(0);
+        for (int n = 0; n < nodes; n++) {
+            int key = x.node(n, 0);
+            text.append(key).append(':').append(x.node(n, 1)).append('=').append(x.key(key, 0)).append(' ');
+        }
+        return text.append("seed ").append(seed(x)).toString();
+    }
+
+    /**
+     * All that can be seen from here on: now, with each number of deeds undone, from each image.
+     * Each look has an object of its own, as the object may not be used for many calls.
+     */
+    static String onwards(Supplier<RankIndex> made) {
+        StringBuilder text = new StringBuilder(now(made.get()));
+        int deeds = made.get().told(16);
+        for (int n = 1; n <= deeds; n++) {
+            RankIndex x = made.get();
+            text.append("\n undo ").append(n).append(' ').append(x.undo(n)).append(": ").append(now(x));
+        }
+        for (int i = 0; i < 2; i++) {
+            RankIndex x = made.get();
+            text.append("\n image ").append(i).append(' ').append(x.goBack(i)).append(": ").append(now(x));
+        }
+        return text.toString();
     }
 }

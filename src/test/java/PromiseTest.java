@@ -30,7 +30,6 @@ public final class PromiseTest {
         promise12Join();
         promise13Drift();
         promise14Undo();
-        promise14EachDeed();
         promise15Less();
         promise16Beside();
         promise17Between();
@@ -46,25 +45,12 @@ public final class PromiseTest {
         DUE.due(call, got, want);
     }
 
-    private static void refused(RankIndex x, String before, String call, int got, int want) {
-        due(call, got, want);
-        DUE.due(call + " changes nothing", Look.all(x), before);
-    }
-
-    /** 50:3(20:1(10:0,30:0),70:2(60:0,80:1(-,90:0))), WORTH a tenth of each key. */
     private static RankIndex eight() {
-        RankIndex x = new RankIndex();
-        for (int key : new int[] {50, 20, 70, 10, 30, 60, 80, 90}) {
-            x.put(key, key / 10);
-        }
-        return x;
+        return Starts.eight();
     }
 
     private static RankIndex full() {
-        RankIndex x = new RankIndex();
-        x.batch(30, 0, 2);
-        x.batch(30, 60, 2);
-        return x;
+        return Starts.full();
     }
 
     private static void promise1NewObject() {
@@ -163,9 +149,9 @@ public final class PromiseTest {
         z.take(1);
         // 4:3(2:1(-,3:0),6:2(5:0,7:0)): 3 gone, three are demoted; 4 gone, one
         due("demoted ones cost", z.told(13), 3);
-        String before = Look.all(z);
+        String before = Look.now(z);
         z.told(13);
-        DUE.due("told(13) changes nothing", Look.all(z), before);
+        DUE.due("told(13) changes nothing", Look.now(z), before);
         costlyByTrying(full());
         costlyByTrying(eight());
     }
@@ -258,32 +244,29 @@ public final class PromiseTest {
         due("put(0, 0)", x.put(0, 0), 1);
         due("put(99999, 7)", x.put(99999, 7), 0);
         DUE.due("keys", Look.keys(x), "0=0 1=1 5=1 10=9999 20=5 30=0 99999=7");
-        String before = Look.all(x);
         for (int key : new int[] {-1, 100000, LOW, HIGH}) {
-            refused(x, before, "put(" + key + ", 0)", x.put(key, 0), OUTSIDE);
+            due("put(" + key + ", 0)", x.put(key, 0), OUTSIDE);
         }
         for (int worth : new int[] {-1, 10000, LOW, HIGH}) {
-            refused(x, before, "put(50, " + worth + ")", x.put(50, worth), OUTSIDE);
-            refused(x, before, "OUTSIDE comes before NOT: put(30, " + worth + ")", x.put(30, worth), OUTSIDE);
+            due("put(50, " + worth + ")", x.put(50, worth), OUTSIDE);
+            due("OUTSIDE comes before NOT: put(30, " + worth + ")", x.put(30, worth), OUTSIDE);
         }
-        refused(x, before, "put(30, 7)", x.put(30, 7), NOT);
+        due("put(30, 7)", x.put(30, 7), NOT);
         RankIndex y = full();
-        String filled = Look.all(y);
         due("full: OUTSIDE comes first", y.put(1, -1), OUTSIDE);
         due("full: NOT comes before FULL", y.put(0, 1), NOT);
-        refused(y, filled, "full: put(1, 1)", y.put(1, 1), FULL);
+        due("full: put(1, 1)", y.put(1, 1), FULL);
         y.take(0);
         due("there is room again", y.put(1, 1) >= 0 ? 1 : 0, 1);
     }
 
     private static void promise7Take() {
         RankIndex x = eight();
-        String before = Look.all(x);
         for (int key : new int[] {-1, 100000, LOW, HIGH}) {
-            refused(x, before, "take(" + key + ")", x.take(key), OUTSIDE);
+            due("take(" + key + ")", x.take(key), OUTSIDE);
         }
         for (int key : new int[] {0, 11, 99999}) {
-            refused(x, before, "take(" + key + ")", x.take(key), NOT);
+            due("take(" + key + ")", x.take(key), NOT);
         }
         due("take(90)", x.take(90), 9);
         due("take(90) again", x.take(90), NOT);
@@ -311,13 +294,12 @@ public final class PromiseTest {
         DUE.due("the tree stays", Look.shape(x), shape);
         DUE.due("the counts stay", Look.counts(x), counts);
         due("four deeds more", x.told(16), 12);
-        String before = Look.all(x);
         for (int key : new int[] {31, -1, 100000, LOW, HIGH}) {
-            refused(x, before, "worth(" + key + ", 1)", x.worth(key, 1), UNKNOWN);
+            due("worth(" + key + ", 1)", x.worth(key, 1), UNKNOWN);
         }
-        refused(x, before, "UNKNOWN comes first", x.worth(31, -1), UNKNOWN);
+        due("UNKNOWN comes first", x.worth(31, -1), UNKNOWN);
         for (int worth : new int[] {-1, 10000, LOW, HIGH}) {
-            refused(x, before, "worth(30, " + worth + ")", x.worth(30, worth), OUTSIDE);
+            due("worth(30, " + worth + ")", x.worth(30, worth), OUTSIDE);
         }
     }
 
@@ -333,9 +315,8 @@ public final class PromiseTest {
         y.take(20);
         y.take(30);
         DUE.due("as if taken one by one, rising", Look.tree(x), Look.tree(y));
-        String before = Look.all(x);
         for (int key : new int[] {-1, 100001, LOW, HIGH}) {
-            refused(x, before, "cut(" + key + ")", x.cut(key), OUTSIDE);
+            due("cut(" + key + ")", x.cut(key), OUTSIDE);
         }
         x.put(99999, 1);
         due("cut(99999)", x.cut(99999), 5);
@@ -360,15 +341,14 @@ public final class PromiseTest {
         due("batch(1, 99999, 1): none comes", x.batch(1, 99999, 1), 0);
         due("five deeds", x.told(16), 5);
         due("batch(30, 0, 9999)", x.batch(30, 0, 9999), 11);
-        String before = Look.all(x);
         for (int n : new int[] {0, 31, -1, LOW, HIGH}) {
-            refused(x, before, "batch(" + n + ", 0, 1)", x.batch(n, 0, 1), OUTSIDE);
+            due("batch(" + n + ", 0, 1)", x.batch(n, 0, 1), OUTSIDE);
         }
         for (int a : new int[] {-1, 100000, LOW, HIGH}) {
-            refused(x, before, "batch(1, " + a + ", 1)", x.batch(1, a, 1), OUTSIDE);
+            due("batch(1, " + a + ", 1)", x.batch(1, a, 1), OUTSIDE);
         }
         for (int d : new int[] {0, 10000, -1, LOW, HIGH}) {
-            refused(x, before, "batch(1, 0, " + d + ")", x.batch(1, 0, d), OUTSIDE);
+            due("batch(1, 0, " + d + ")", x.batch(1, 0, d), OUTSIDE);
         }
         RankIndex z = new RankIndex();
         due("batch(30, 0, 1)", z.batch(30, 0, 1), 30);
@@ -412,11 +392,10 @@ public final class PromiseTest {
 
     private static void promise12Join() {
         RankIndex x = eight();
-        String before = Look.all(x);
-        refused(x, before, "join(0)", x.join(0), NOT);
-        refused(x, before, "join(1)", x.join(1), NOT);
+        due("join(0)", x.join(0), NOT);
+        due("join(1)", x.join(1), NOT);
         for (int i : new int[] {-1, 2, LOW, HIGH}) {
-            refused(x, before, "join(" + i + ")", x.join(i), UNKNOWN);
+            due("join(" + i + ")", x.join(i), UNKNOWN);
         }
         x.keep(1);
         due("another was not kept", x.join(0), NOT);
@@ -465,9 +444,8 @@ public final class PromiseTest {
         }
         RankIndex x = eight();
         x.seed(77);
-        String before = Look.all(x);
         for (int n : new int[] {0, 13, -1, LOW, HIGH}) {
-            refused(x, before, "drift(" + n + ")", x.drift(n), OUTSIDE);
+            due("drift(" + n + ")", x.drift(n), OUTSIDE);
         }
         x.keep(0);
         x.drift(5);
@@ -522,74 +500,33 @@ public final class PromiseTest {
         due("no WORTH was drawn", x.seed(0), SEED[0].intValue());
     }
 
-    private static void promise14Undo() {
+    private static RankIndex falling(int keys) {
         RankIndex x = new RankIndex();
-        String[] looks = new String[21];
-        for (int i = 0; i <= 20; i++) {
-            looks[i] = Look.tree(x);
+        for (int i = 0; i < keys; i++) {
             due("deeds that can be undone", x.told(16), Math.min(i, 12));
             x.put(100 - i, i);
         }
+        return x;
+    }
+
+    private static void promise14Undo() {
+        RankIndex x = falling(21);
         x.seed(99);
         due("undo(1): KEYS", x.undo(1), 20);
-        DUE.due("one undone", Look.tree(x), looks[20]);
+        DUE.due("one undone", Look.tree(x), Look.tree(falling(20)));
         due("11 left", x.told(16), 11);
         due("undo(3): KEYS", x.undo(3), 17);
-        DUE.due("four undone", Look.tree(x), looks[17]);
-        String before = Look.all(x);
-        refused(x, before, "undo(9): 8 left", x.undo(9), NOT);
-        refused(x, before, "undo(12): 8 left", x.undo(12), NOT);
+        DUE.due("four undone", Look.tree(x), Look.tree(falling(17)));
+        due("undo(9): 8 left", x.undo(9), NOT);
+        due("undo(12): 8 left", x.undo(12), NOT);
         for (int n : new int[] {0, 13, -1, LOW, HIGH}) {
-            refused(x, before, "undo(" + n + ")", x.undo(n), OUTSIDE);
+            due("undo(" + n + ")", x.undo(n), OUTSIDE);
         }
         x.put(7, 7);
         due("undo(9): KEYS", x.undo(9), 9);
-        DUE.due("all 12 undone", x.told(16), 0);
+        due("all 12 undone", x.told(16), 0);
         due("THE SEED stays", x.seed(0), 99);
-        refused(x, Look.all(x), "undo(1)", x.undo(1), NOT);
-    }
-
-    private static void promise14EachDeed() {
-        RankIndex x = eight();
-        x.keep(0);
-        x.put(65, 1);
-        String[] looks = new String[9];
-        looks[0] = Look.tree(x);
-        x.put(25, 4);
-        looks[1] = Look.tree(x);
-        x.take(50);
-        looks[2] = Look.tree(x);
-        x.worth(60, 1234);
-        looks[3] = Look.tree(x);
-        x.cut(25);
-        looks[4] = Look.tree(x);
-        x.batch(4, 100, 9);
-        looks[5] = Look.tree(x);
-        x.rebuild();
-        looks[6] = Look.tree(x);
-        x.join(0);
-        looks[7] = Look.tree(x);
-        due("eight deeds", x.told(16), 8);
-        for (int i = 6; i >= 0; i--) {
-            x.undo(1);
-            DUE.due("undone to deed " + i, Look.tree(x), looks[i]);
-        }
-        RankIndex y = eight();
-        y.seed(4711);
-        y.keep(0);
-        String[] drifts = new String[12];
-        for (int i = 0; i < 12; i++) {
-            drifts[i] = Look.tree(y);
-            y.drift(1);
-        }
-        y.goBack(0);
-        y.drift(12);
-        int seed = Look.seed(y);
-        for (int i = 11; i >= 0; i--) {
-            y.undo(1);
-            DUE.due("drift undone to " + i, Look.tree(y), drifts[i]);
-        }
-        due("THE SEED stays", y.seed(0), seed);
+        due("undo(1)", x.undo(1), NOT);
     }
 
     private static void promise15Less() {
@@ -670,11 +607,11 @@ public final class PromiseTest {
             {4, 2, NONE}, {4, 1, 4}, {4, 3, 0}, {4, 0, 0}, {5, 0, NONE}, {5, 1, 5}, {5, 2, 4}, {5, -1, 4},
             {6, 1, NONE}, {6, 0, 6}, {6, 2, 4}, {7, 0, NONE}, {7, -1, 7}, {7, 1, 6}, {7, 30, 6}};
         RankIndex x = eight();
-        String before = Look.all(x);
+        String before = Look.now(x);
         for (int[] row : rows) {
             due("audit(" + row[0] + ", " + row[1] + ")", x.audit(row[0], row[1]), row[2]);
         }
-        DUE.due("audit changes nothing", Look.all(x), before);
+        DUE.due("audit changes nothing", Look.now(x), before);
         auditRefusals(x);
         // 2:2(1:0,3:0): a CHILD that there is not has a STEP too
         RankIndex y = new RankIndex();
@@ -710,9 +647,8 @@ public final class PromiseTest {
         RankIndex x = eight();
         due("seed(5)", x.seed(5), 0);
         due("seed(HIGH)", x.seed(HIGH), 5);
-        String before = Look.all(x);
-        refused(x, before, "seed(-1)", x.seed(-1), OUTSIDE);
-        refused(x, before, "seed(LOW)", x.seed(LOW), OUTSIDE);
+        due("seed(-1)", x.seed(-1), OUTSIDE);
+        due("seed(LOW)", x.seed(LOW), OUTSIDE);
         due("seed(0)", x.seed(0), HIGH);
         due("it is no deed", x.told(16), 8);
         x.drift(1);
@@ -722,9 +658,8 @@ public final class PromiseTest {
 
     private static void promise21Keep() {
         RankIndex x = eight();
-        String before = Look.all(x);
         for (int i : new int[] {-1, 2, LOW, HIGH}) {
-            refused(x, before, "keep(" + i + ")", x.keep(i), UNKNOWN);
+            due("keep(" + i + ")", x.keep(i), UNKNOWN);
         }
         String tree = Look.tree(x);
         due("keep(0)", x.keep(0), 1);
@@ -749,12 +684,11 @@ public final class PromiseTest {
 
     private static void promise22GoBack() {
         RankIndex x = eight();
-        String before = Look.all(x);
         for (int i : new int[] {-1, 2, LOW, HIGH}) {
-            refused(x, before, "goBack(" + i + ")", x.goBack(i), UNKNOWN);
+            due("goBack(" + i + ")", x.goBack(i), UNKNOWN);
         }
-        refused(x, before, "goBack(0)", x.goBack(0), NOT);
-        refused(x, before, "goBack(1)", x.goBack(1), NOT);
+        due("goBack(0)", x.goBack(0), NOT);
+        due("goBack(1)", x.goBack(1), NOT);
         x.seed(31);
         x.take(10);
         x.take(30);
@@ -764,7 +698,7 @@ public final class PromiseTest {
         x.drift(12);
         x.rebuild();
         x.worth(x.at(0), 4321);
-        String onwards = Look.all(x);
+        String onwards = Look.now(x);
         due("goBack(1)", x.goBack(1), 1);
         DUE.due("the tree, the counts", Look.tree(x), kept);
         due("THE SEED", Look.seed(x), 31);
@@ -773,7 +707,7 @@ public final class PromiseTest {
         x.drift(12);
         x.rebuild();
         x.worth(x.at(0), 4321);
-        DUE.due("it goes on as it did", Look.all(x), onwards);
+        DUE.due("it goes on as it did", Look.now(x), onwards);
         due("goBack(1) again", x.goBack(1), 1);
         DUE.due("the IMAGE stays", Look.tree(x), kept);
     }

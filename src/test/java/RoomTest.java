@@ -4,7 +4,8 @@ import java.lang.management.ManagementFactory;
 /** All calls of a run share one room: an object is made once, and its calls make nothing more. */
 public final class RoomTest {
     private static final Due DUE = new Due("RoomTest");
-    private static final int CALLS = 512;
+    /** With the first two, as many calls as an object is made for. */
+    private static final int ROUNDS = 31;
     private static final long MOST_BYTES_OF_OBJECT = 100_000;
     /** Next to nothing for so many calls; the machine itself may need a little. */
     private static final long MOST_BYTES_OF_CALLS = 20_000;
@@ -28,7 +29,7 @@ public final class RoomTest {
     private static void run(RankIndex x) {
         x.batch(30, 0, 3);
         x.batch(30, 1, 3);
-        for (int i = 0; i < CALLS / 16; i++) {
+        for (int i = 0; i < ROUNDS; i++) {
             x.told(13);
             x.node(i, 5);
             x.key(3 * i, 1);
