@@ -28,6 +28,8 @@ public final class EdgesPutTakeTest {
         test.takeOneChild();
         test.takeDemotesParent();
         test.takeUpToTheTop();
+        test.takeClimbs();
+        test.takeTurnsTwice();
         test.takeLeavesParentAlone();
         test.takeMakesRoom();
         test.worthBounds();
@@ -180,6 +182,9 @@ public final class EdgesPutTakeTest {
         edges.due("its WORTH, not the other's", x.take(20), 2);
         edges.due("the RIGHT CHILD itself", Look.shape(x), "30:1(10:0,-)");
         edges.due("with its WORTH", Look.keys(x), "10=1 30=3");
+        RankIndex z = Starts.of(30, 20, 10);
+        edges.due("take(20)", z.take(20), 2);
+        edges.due("the KEY that came first", Look.keys(z), "10=1 30=3");
         RankIndex y = Starts.of(40, 20, 80, 10, 30, 60, 90, 70);
         edges.due("take(40)", y.take(40), 4);
         edges.due("one below it, whose CHILD stands in", Look.shape(y), "60:3(20:1(10:0,30:0),80:2(70:0,90:0))");
@@ -226,6 +231,37 @@ public final class EdgesPutTakeTest {
         edges.due("STEP 2 stays", Look.shape(y), "20:2(10:0,30:0)");
         edges.due("up to the top: 3 DEMOTED", Look.latest(threeDemoted()), "0 3 0");
         edges.due("the top then", Look.shape(threeDemoted()), "4:2(2:0,6:1(5:0,7:0))");
+    }
+
+    private void takeClimbs() {
+        edges.sentence(7, "Has y STEP 2: the PARENT is DEMOTED, x is the PARENT.");
+        RankIndex x = Starts.rising(31);
+        for (int key = 1; key <= 31; key += 2) {
+            x.take(key);
+        }
+        for (int key : new int[] {2, 10, 18, 26, 6, 22, 14}) {
+            x.take(key);
+        }
+        edges.due("all STEPS are 2 on the way to 4", Look.shape(x), "16:4(8:2(4:0,12:0),24:2(20:0,28:1(-,30:0)))");
+        x.take(4);
+        edges.due("8, then 16 above it", Look.shape(x), "16:3(8:1(-,12:0),24:2(20:0,28:1(-,30:0)))");
+        edges.due("two are DEMOTED", Look.latest(x), "0 2 0");
+    }
+
+    private void takeTurnsTwice() {
+        edges.sentence(7, "Has it STEP 2: the inner CHILD of y TURNS over y, then over the PARENT");
+        RankIndex x = Starts.of(2, 1, 4, 3);
+        x.take(1);
+        edges.due("x is LEFT, and not there", Look.shape(x), "3:2(2:0,4:0)");
+        edges.due("two TURNS", Look.latest(x), "0 0 2");
+        RankIndex y = Starts.of(3, 4, 1, 2);
+        y.take(4);
+        edges.due("x is RIGHT, and not there", Look.shape(y), "2:2(1:0,3:0)");
+        edges.due("two TURNS", Look.latest(y), "0 0 2");
+        RankIndex z = Starts.of(10, 5, 20, 4, 15, 30, 12);
+        z.take(4);
+        edges.due("x is there, the inner CHILD has one", Look.shape(z), "15:3(10:1(5:0,12:0),20:1(-,30:0))");
+        edges.due("one DEMOTED, two TURNS", Look.latest(z), "0 1 2");
     }
 
     private static RankIndex threeDemoted() {

@@ -1,4 +1,5 @@
 import java.io.IOException;
+import java.util.function.Supplier;
 
 /** Boundary cases of promises 1 to 5: a new object, and what is told of the tree. */
 public final class EdgesTreeTest {
@@ -20,6 +21,7 @@ public final class EdgesTreeTest {
         test.toldWhat();
         test.toldTop();
         test.toldSums();
+        test.toldRanks();
         test.toldLatest();
         test.toldLongSteps();
         test.toldCostly();
@@ -120,6 +122,27 @@ public final class EdgesTreeTest {
         edges.due("none with KEYS above 99999", x.between(0, 99999, 0), 60);
         x.worth(99999, 0);
         edges.due("one of them 0", x.told(4), 59 * 9999);
+        RankIndex y = new RankIndex();
+        y.put(0, 3);
+        edges.due("KEY 0 alone: WORTH", y.told(4), 3);
+        y.put(99999, 40);
+        edges.due("the least and the greatest KEY: WORTH", y.told(4), 43);
+    }
+
+    private void toldRanks() {
+        edges.sentence(2, "11 RANKS of all together");
+        edges.due("empty", Starts.empty().told(11), 0);
+        edges.due("one", Starts.one().told(11), 0);
+        edges.due("5:1(-,9:0)", Starts.of(5, 9).told(11), 1);
+        edges.due("50:3(20:1(10:0,30:0),70:2(60:0,80:1(-,90:0)))", Starts.eight().told(11), 7);
+        RankIndex x = Starts.full();
+        int together = 0;
+        for (int n = 0; n < 60; n++) {
+            together += x.node(n, 1);
+        }
+        edges.due("full", x.told(11), together);
+        x.cut(100000);
+        edges.due("empty again", x.told(11), 0);
     }
 
     private void toldLatest() {
@@ -154,6 +177,7 @@ public final class EdgesTreeTest {
         edges.due("one STEP of 2: 2:2(1:0,3:1(-,4:0))", x.told(12), 1);
         x.take(4);
         edges.due("both: 2:2(1:0,3:0)", x.told(12), 2);
+        edges.due("of the KEY that came first", Starts.of(1, 2, 3, 4).told(12), 1);
     }
 
     private void toldCostly() {
@@ -167,17 +191,25 @@ public final class EdgesTreeTest {
         RankIndex x = Starts.of(4);
         x.take(4);
         edges.due("empty again", x.told(13), NONE);
-        RankIndex full = Starts.full();
-        int costly = full.told(13);
-        edges.due("full", costly, costliestByTaking(60));
+        edges.due("the latest PUT cost more than any would", Starts.of(30, 20, 10).told(13), 10);
+        edges.due("full", Starts.full().told(13), costliestByTaking(Starts::full));
+        edges.due("full, the greatest by trying", costliestByTaking(EdgesTreeTest::lastIsCostly), 116);
+        edges.due("full, the greatest", lastIsCostly().told(13), 116);
     }
 
-    /** Each key of a full index taken, from an object of its own. */
-    private static int costliestByTaking(int keys) {
+    private static RankIndex lastIsCostly() {
+        RankIndex x = new RankIndex();
+        x.batch(30, 0, 4);
+        x.batch(30, 37, 2);
+        return x;
+    }
+
+    /** Each of sixty keys taken, from an object of its own. */
+    private static int costliestByTaking(Supplier<RankIndex> start) {
         int costliest = NONE;
         int most = -1;
-        for (int k = 0; k < keys; k++) {
-            RankIndex x = Starts.full();
+        for (int k = 0; k < 60; k++) {
+            RankIndex x = start.get();
             int key = x.at(k);
             x.take(key);
             int cost = x.told(8) + x.told(9) + x.told(10);

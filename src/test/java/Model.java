@@ -224,7 +224,7 @@ final class Model {
         }
     }
 
-    private List<Node> numbered() {
+    List<Node> numbered() {
         List<Node> all = new ArrayList<>();
         numbered(state.top, all);
         return all;

@@ -9,9 +9,6 @@ public final class ModelTest {
     /** Leaves room for a look at everything at the end. */
     private static final int SHORT_RUN = 190;
     private static final int[] FAR = {Integer.MIN_VALUE, -1000000001, -2, -1, 60, 61, 99999, 100000, 100001, Integer.MAX_VALUE};
-    private static final String[] NAMES = {
-        "told", "node", "key", "at", "put", "take", "worth", "cut", "batch", "rebuild", "join",
-        "drift", "undo", "less", "beside", "between", "way", "audit", "seed", "keep", "goBack"};
     /** How often each call comes, in the order of the names. */
     private static final int[] OFTEN = {24, 24, 6, 4, 24, 12, 4, 1, 3, 1, 2, 6, 4, 3, 4, 6, 4, 8, 1, 1, 1};
 
@@ -40,8 +37,8 @@ public final class ModelTest {
         for (int i = 0; i < (isLong ? LONG_RUN : SHORT_RUN) && DUE.isClean(); i++) {
             int which = drawCall();
             int[] a = {argument(which, 0), argument(which, 1), argument(which, 2)};
-            DUE.due("run " + run + ", call " + i + ": " + NAMES[which] + "(" + a[0] + ", " + a[1] + ", " + a[2] + ")",
-                ofProgram(which, a), ofModel(which, a));
+            DUE.due("run " + run + ", call " + i + ": " + Calls.text(which, a),
+                Calls.ofProgram(x, which, a), Calls.ofModel(model, which, a));
         }
         if (!isLong && DUE.isClean()) {
             DUE.due("run " + run + ", at its end", everythingOfProgram(), everythingOfModel());
@@ -66,7 +63,7 @@ public final class ModelTest {
         if (random.nextInt(40) == 0) {
             return FAR[random.nextInt(FAR.length)];
         }
-        switch (NAMES[which] + place) {
+        switch (Calls.NAMES[which] + place) {
             case "told0": return random.nextInt(19) - 1;
             case "node0": case "audit0": return random.nextInt(Math.max(1, model.told(0)) + 1);
             case "node1": return random.nextInt(9) - 1;
@@ -121,57 +118,5 @@ public final class ModelTest {
                 .append(model.node(n, 3)).append(' ').append(model.node(n, 4)).append(' ').append(model.key(model.node(n, 0), 0));
         }
         return text.toString();
-    }
-
-    private int ofProgram(int which, int[] a) {
-        switch (NAMES[which]) {
-            case "told": return x.told(a[0]);
-            case "node": return x.node(a[0], a[1]);
-            case "key": return x.key(a[0], a[1]);
-            case "at": return x.at(a[0]);
-            case "put": return x.put(a[0], a[1]);
-            case "take": return x.take(a[0]);
-            case "worth": return x.worth(a[0], a[1]);
-            case "cut": return x.cut(a[0]);
-            case "batch": return x.batch(a[0], a[1], a[2]);
-            case "rebuild": return x.rebuild();
-            case "join": return x.join(a[0]);
-            case "drift": return x.drift(a[0]);
-            case "undo": return x.undo(a[0]);
-            case "less": return x.less(a[0]);
-            case "beside": return x.beside(a[0], a[1]);
-            case "between": return x.between(a[0], a[1], a[2]);
-            case "way": return x.way(a[0], a[1]);
-            case "audit": return x.audit(a[0], a[1]);
-            case "seed": return x.seed(a[0]);
-            case "keep": return x.keep(a[0]);
-            default: return x.goBack(a[0]);
-        }
-    }
-
-    private int ofModel(int which, int[] a) {
-        switch (NAMES[which]) {
-            case "told": return model.told(a[0]);
-            case "node": return model.node(a[0], a[1]);
-            case "key": return model.key(a[0], a[1]);
-            case "at": return model.at(a[0]);
-            case "put": return model.put(a[0], a[1]);
-            case "take": return model.take(a[0]);
-            case "worth": return model.worth(a[0], a[1]);
-            case "cut": return model.cut(a[0]);
-            case "batch": return model.batch(a[0], a[1], a[2]);
-            case "rebuild": return model.rebuild();
-            case "join": return model.join(a[0]);
-            case "drift": return model.drift(a[0]);
-            case "undo": return model.undo(a[0]);
-            case "less": return model.less(a[0]);
-            case "beside": return model.beside(a[0], a[1]);
-            case "between": return model.between(a[0], a[1], a[2]);
-            case "way": return model.way(a[0], a[1]);
-            case "audit": return model.audit(a[0], a[1]);
-            case "seed": return model.seed(a[0]);
-            case "keep": return model.keep(a[0]);
-            default: return model.goBack(a[0]);
-        }
     }
 }
