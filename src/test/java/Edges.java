@@ -25,11 +25,11 @@ final class Edges {
         document = Files.isReadable(DOCUMENT) ? flat(Files.readString(DOCUMENT)) : "";
     }
 
-    /** The words have to stand in the document, among its terms or below the promise. */
+    /** The words have to stand in the document, ahead of all promises or below this one. */
     void sentence(int promise, String words) {
         closeSentence();
         sentence = "promise " + promise + ", '" + words + "': ";
-        boolean stands = document.isEmpty() || terms().contains(flat(words)) || below(promise).contains(flat(words));
+        boolean stands = document.isEmpty() || forAll().contains(flat(words)) || below(promise).contains(flat(words));
         due.due(sentence + "stands in the document", stands, true);
         looksBefore = due.looks();
     }
@@ -68,8 +68,8 @@ final class Edges {
         due.end();
     }
 
-    private String terms() {
-        return part("## Terms ", "## Promise 1: ");
+    private String forAll() {
+        return part("## What it is ", "## Promise 1: ");
     }
 
     private String below(int promise) {

@@ -17,6 +17,7 @@ public final class EdgesTreeTest {
     public static void main(String[] args) throws IOException {
         EdgesTreeTest test = new EdgesTreeTest();
         test.newObject();
+        test.lastCall();
         test.constants();
         test.toldWhat();
         test.toldTop();
@@ -72,6 +73,16 @@ public final class EdgesTreeTest {
         RankIndex other = Starts.rich();
         edges.due("beside another object", Look.now(new RankIndex()), Look.now(x));
         edges.due("the other object", other.told(0), 9);
+    }
+
+    private void lastCall() {
+        edges.sentence(1, "An object is used for at most 512 calls after it has been made");
+        RankIndex x = new RankIndex();
+        for (int call = 1; call <= 510; call++) {
+            edges.due("call " + call, call % 2 == 1 ? x.put(call, 7) : x.take(call - 1), call % 2 == 1 ? 0 : 7);
+        }
+        edges.due("call 511", x.put(99999, 9999), 0);
+        edges.due("call 512", x.told(4), 9999);
     }
 
     private void constants() {
